@@ -10,6 +10,7 @@ public final class AccessLattice {
     private static final int MOST_BYTES = 80, MOST_OPEN = 6, MOST_BOOKED = 30, BOOK_ROW = 6;
     private static final int MOST_PICKED = 3, MOST_OPTIONS = ROLES + MOST_LOANS + MOST_RULES;
     private static final int LAST_TICK = 9999, AHEAD = 200;
+    private static final long FOR_EVER = 1L << 40;
     private static final int NOTHING = 0, ALLOWED = 1, DENIED = 2;
     private static final int GIVEN = 1000, OPERATOR = 2000, GIVENS = 11;
     private static final int NEGATE = '~';
@@ -159,7 +160,6 @@ public final class AccessLattice {
         loans.until[number] = until;
         loans.further[number] = further;
         loans.source[number] = source;
-        loans.taken[number] = false;
         loans.count++;
         return number;
     }
@@ -173,7 +173,7 @@ public final class AccessLattice {
             return STATE;
         }
         int before = Long.bitCount(live.standing);
-        state.loans.taken[loan] = true;
+        state.loans.taken |= 1L << loan;
         live.settle(state.now);
         return before - Long.bitCount(live.standing);
     }
@@ -802,6 +802,10 @@ public final class AccessLattice {
         return (bits >> number & 1) != 0;
     }
 
+    private static boolean hasLong(long bits, int number) {
+        return (bits >> number & 1L) != 0L;
+    }
+
     /** ROLES above ROLES: the pairs as told, and what follows from them. */
     private static final class Roles {
         final int[] down = new int[ROLES];
@@ -947,7 +951,7 @@ public final class AccessLattice {
         final int[] until = new int[MOST_LOANS];
         final int[] further = new int[MOST_LOANS];
         final int[] source = new int[MOST_LOANS];
-        final boolean[] taken = new boolean[MOST_LOANS];
+        long taken = 0L;
         int count = 0;
 
         void copyFrom(Loans other) {
@@ -957,7 +961,7 @@ public final class AccessLattice {
             System.arraycopy(other.until, 0, until, 0, MOST_LOANS);
             System.arraycopy(other.further, 0, further, 0, MOST_LOANS);
             System.arraycopy(other.source, 0, source, 0, MOST_LOANS);
-            System.arraycopy(other.taken, 0, taken, 0, MOST_LOANS);
+            taken = other.taken;
             count = other.count;
         }
     }
@@ -992,9 +996,9 @@ public final class AccessLattice {
             count = rule + 1;
         }
 
-        /** Behind its last TICK; a long, as for ever is later than any int. */
+        /** A long, as for ever is later than any int that TO can be. */
         long end(int rule) {
-            return to[rule] == -1 ? Long.MAX_VALUE : to[rule];
+            return to[rule] == -1 ? FOR_EVER : to[rule];
         }
 
         /** The RULES that hold at a TICK and have USES left. */
@@ -1178,11 +1182,12 @@ public final class AccessLattice {
             System.arraycopy(owned, 0, held, 0, USERS);
             standing = 0L;
             Loans loans = state.loans;
+            long out = lost | loans.taken;
             for (int i = 0; i < loans.count; i++) {
                 int source = loans.source[i];
                 boolean backed = source < 0
                         ? has(owned[loans.from[i]], loans.role[i]) : isStanding(source);
-                if (backed && tick < loans.until[i] && !loans.taken[i] && (lost >> i & 1L) == 0L) {
+                if (backed && tick < loans.until[i] && !hasLong(out, i)) {
                     standing |= 1L << i;
                     held[loans.to[i]] |= state.roles.reach[loans.role[i]];
                 }
@@ -1190,7 +1195,7 @@ public final class AccessLattice {
         }
 
         boolean isStanding(int loan) {
-            return (standing >> loan & 1L) != 0L;
+            return hasLong(standing, loan);
         }
 
         /** Whether any USER HOLDS an EXCLUDED pair now. */
@@ -1239,7 +1244,7 @@ public final class AccessLattice {
         long loansBehind(int user) {
             long behind = 0L;
             for (int i = state.loans.count - 1; i >= 0; i--) {
-                boolean leads = state.loans.to[i] == user || (behind >> i & 1L) != 0L;
+                boolean leads = state.loans.to[i] == user || hasLong(behind, i);
                 if (isStanding(i) && leads) {
                     behind |= 1L << i;
                     int source = state.loans.source[i];
@@ -1650,7 +1655,7 @@ public final class AccessLattice {
 
         private void addOptions(int first, int most, long bits) {
             for (int i = 0; i < most && size < options.length; i++) {
-                if ((bits >> i & 1L) != 0L) {
+                if (hasLong(bits, i)) {
                     options[size] = first + i;
                     size++;
                 }
@@ -1665,6 +1670,8 @@ public final class AccessLattice {
         }
 
         private int fewest(View view, int user, int met, boolean gain) {
+            turned = 0;
+            lost = 0L;
             for (int many = 1; many <= MOST_PICKED; many++) {
                 boolean more = many <= size;
                 for (int i = 0; i < many; i++) {
@@ -1695,8 +1702,13 @@ public final class AccessLattice {
 
         private boolean suits(View view, int user, int met, int many, boolean gain) {
             Rules rules = view.state.rules;
+            int turnedBefore = turned;
+            long lostBefore = lost;
             sumUp(many);
-            view.suppose(user, turned, lost);
+            // RULES come last in order, so that most of the choices leave what is HELD as it was.
+            if (turned != turnedBefore || lost != lostBefore) {
+                view.suppose(user, turned, lost);
+            }
             int held = view.held[user];
             int rule = rules.first(rules.ofRoles(met & ~gone, held));
             boolean allowed = rules.answerBy(rule) == ALLOWED;
