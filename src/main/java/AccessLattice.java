@@ -412,7 +412,7 @@ public final class AccessLattice {
         live.settle(state.now);
         int bits = 0;
         for (int i = 0; i <= n; i++) {
-            live.turnTo(state.now + i, 0L);
+            live.turnTo(state.now + i);
             bits |= live.usersWith(ALLOWED, act, thing);
         }
         return bits;
@@ -444,7 +444,7 @@ public final class AccessLattice {
         live.settle(state.now);
         int first = live.answer(user, act, thing);
         for (int i = 1; i <= AHEAD; i++) {
-            live.turnTo(state.now + i, 0L);
+            live.turnTo(state.now + i);
             if (live.answer(user, act, thing) != first) {
                 return state.now + i;
             }
@@ -475,7 +475,7 @@ public final class AccessLattice {
         int before = live.answer(user, act, thing);
         int found = 0;
         for (int k = 1; k <= AHEAD; k++) {
-            live.turnTo(state.now + k, 0L);
+            live.turnTo(state.now + k);
             int answer = live.answer(user, act, thing);
             if (answer != before) {
                 if (found == i) {
@@ -1162,14 +1162,14 @@ public final class AccessLattice {
             for (int user = 0; user < USERS; user++) {
                 owned[user] = state.roles.spread(state.assigned[user]);
             }
-            turnTo(at, 0L);
+            turnTo(at);
         }
 
-        /** The same at another TICK, and with LOANS (bits) TAKEN BACK. */
-        void turnTo(int at, long lost) {
+        /** What is ASSIGNED is at each TICK the same, if nothing else is told. */
+        void turnTo(int at) {
             tick = at;
             timely = state.rules.timely(at);
-            settleLoans(lost);
+            settleLoans(0L);
         }
 
         /** The USER's ASSIGNED ROLES are others (each bit the other way), and LOANS are lost. */
@@ -1186,7 +1186,7 @@ public final class AccessLattice {
             for (int i = 0; i < loans.count; i++) {
                 int source = loans.source[i];
                 boolean backed = source < 0
-                        ? has(owned[loans.from[i]], loans.role[i]) : isStanding(source);
+                        ? has(owned[loans.from[i]], loans.role[i]) : hasLong(standing, source);
                 if (backed && tick < loans.until[i] && !hasLong(out, i)) {
                     standing |= 1L << i;
                     held[loans.to[i]] |= state.roles.reach[loans.role[i]];

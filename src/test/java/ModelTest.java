@@ -17,7 +17,7 @@ public final class ModelTest {
     private final AccessLattice real = new AccessLattice();
     private final Model model = new Model();
     private final List<String> told = new ArrayList<>();
-    private final int roles, users, things, acts, costly;
+    private final int roles, users, things, acts, costly, late;
     private final boolean lending;
     private int calls = 0, rules = 0, loans = 0;
     private boolean wrong = false;
@@ -30,6 +30,7 @@ public final class ModelTest {
         acts = pick(1, 2, 8);
         costly = pick(0, 2, 6);
         lending = random.nextBoolean();
+        late = oneIn(8) ? 19 : 0;
     }
 
     private int pick(int... of) {
@@ -150,8 +151,8 @@ public final class ModelTest {
         int role = oneIn(100) ? odd(random) : random.nextInt(roles) + (oneIn(3) ? 100 : 0);
         int kindOfActs = oneIn(100) ? odd(random) : 1 + random.nextInt((1 << acts) - 1);
         int thing = oneIn(100) ? odd(random) : random.nextInt(things) + (oneIn(2) ? 100 : 0);
-        int from = oneIn(100) ? odd(random) : oneIn(3) ? random.nextInt(60) : 0;
-        int to = oneIn(100) ? odd(random) : oneIn(2) ? -1 : from + random.nextInt(150);
+        int from = oneIn(100) ? odd(random) : oneIn(3) ? Math.max(0, model.w.now - 20) + random.nextInt(60) : 0;
+        int to = oneIn(100) ? odd(random) : oneIn(2) ? -1 : Math.max(from, model.w.now - 20) + random.nextInt(150);
         int number = call("rule", role, kindOfActs, thing, from, to);
         if (number >= 0) {
             rules = number + 1;
@@ -283,7 +284,13 @@ public final class ModelTest {
     }
 
     private boolean run() {
-        int opening = 30 + random.nextInt(60);
+        for (int i = 0; i < late; i++) {
+            call("step", 500);
+        }
+        if (late > 0) {
+            call("step", 400 + random.nextInt(100));
+        }
+        int opening = calls + 30 + random.nextInt(60);
         while (calls < 512 && !wrong) {
             if (calls < opening || oneIn(2)) {
                 tell();
