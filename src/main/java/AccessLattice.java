@@ -24,7 +24,7 @@ public final class AccessLattice {
     private final Reader reader = new Reader();
     private final Search search = new Search();
     private final Grounds grounds = new Grounds();
-    private final int[] way = new int[ROLES];
+    private final int[] route = new int[ROLES];
     private final int[] starts = new int[ROLES];
     private boolean imaged = false;
 
@@ -351,14 +351,14 @@ public final class AccessLattice {
         int role = state.rules.role[rule];
         int own = state.assigned[user] & roles.rise[role];
         int targets = own != 0 ? own : live.lentTo(user) & roles.rise[role];
-        int length = roles.fewest(roles.up, role, targets, way);
-        for (int i = 0; i < length && i < way.length; i++) {
-            grounds.add(BY_ROLE, way[i]);
+        int length = roles.fewest(roles.up, role, targets, route);
+        for (int i = 0; i < length && i < route.length; i++) {
+            grounds.add(BY_ROLE, route[i]);
         }
         if (own != 0) {
             grounds.add(BY_USER, user);
-        } else if (between(length, 1, way.length)) {
-            tellLoans(live.leastLoan(user, way[length - 1]));
+        } else if (between(length, 1, route.length)) {
+            tellLoans(live.leastLoan(user, route[length - 1]));
         }
     }
 
@@ -640,11 +640,11 @@ public final class AccessLattice {
         if (!isRole(from) || !isRole(to) || i < -1) {
             return BAD;
         }
-        int length = state.roles.fewest(state.roles.down, from, 1 << to, way);
-        if (length == 0 || i >= length || i >= way.length) {
+        int length = state.roles.fewest(state.roles.down, from, 1 << to, route);
+        if (length == 0 || i >= length || i >= route.length) {
             return NOT;
         }
-        return i < 0 ? length - 1 : way[i];
+        return i < 0 ? length - 1 : route[i];
     }
 
     public int under(int thing) {
