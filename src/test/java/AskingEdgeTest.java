@@ -975,6 +975,7 @@ public final class AskingEdgeTest {
         x.rule(4, 1, 101, 3, 7);
         x.rule(103, 2, 1, 0, 9);
         x.rule(4, 4, 1, 0, -1);
+        x.rule(4, 8, 1, 7, 8);
         x.uses(2, 1);
         x.may(5, 2, 1);
         x.step(6);
@@ -996,11 +997,11 @@ public final class AskingEdgeTest {
         x.may(5, 0, 2);
         due(2, x.since(5));
         x.step(1);
-        due(2, x.since(5));
-        x.off(1);
         due(3, x.since(5));
+        x.off(1);
+        due(4, x.since(5));
         x.off(2);
-        due(2, x.since(16));
+        due(3, x.since(16));
         x.assign(5, 3, 0);
         due(2, x.since(16));
         x.back();
