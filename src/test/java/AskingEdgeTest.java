@@ -41,6 +41,7 @@ public final class AskingEdgeTest {
         waysMost();
         idle();
         unlikeMost();
+        unlikeByAnswers();
         book();
         bookRound();
         shadowedSame();
@@ -55,6 +56,7 @@ public final class AskingEdgeTest {
         chainLeast();
         decidesEdges();
         sinceEdges();
+        sinceByAnswers();
         sinceItsOwnRules();
         sinceItsOwnLoans();
         askedAtOnce();
@@ -592,6 +594,23 @@ public final class AskingEdgeTest {
         due(NOT, x.unlike(0, 15, 0));
     }
 
+    private static void unlikeByAnswers() {
+        start("UNLIKE: pairs for which their ANSWERS are not the same, whatever the RULES that they are by.");
+        x.assign(0, 0, 1);
+        x.assign(1, 1, 1);
+        x.rule(0, 1, 0, 0, -1);
+        x.rule(1, 1, 0, 0, -1);
+        x.rule(100, 2, 0, 0, -1);
+        x.rule(101, 2, 0, 0, -1);
+        due(0, x.unlike(0, 1, -1));
+        due(NOT, x.unlike(0, 1, 0));
+        x.off(3);
+        due(1, x.unlike(0, 1, -1));
+        due(16, x.unlike(0, 1, 0));
+        x.rule(1, 2, 0, 0, -1);
+        due(16, x.unlike(1, 0, 0));
+    }
+
     private static void book() {
         start("THE BOOK: the latest 30 may(): TICK, USER, ACT, THING, ANSWER, RULE (-1: none).");
         due(NOT, x.book(0, 0));
@@ -962,6 +981,26 @@ public final class AskingEdgeTest {
         x.back();
         due(0, x.since(16));
         due(1, x.count(0));
+    }
+
+    private static void sinceByAnswers() {
+        start("ANSWERS that are others now: not those by another RULE alone.");
+        x.assign(2, 0, 1);
+        x.rule(0, 1, 3, 0, -1);
+        x.rule(0, 1, 3, 0, -1);
+        x.rule(100, 2, 3, 0, -1);
+        x.rule(100, 2, 3, 0, -1);
+        x.image();
+        x.off(0);
+        x.off(2);
+        due(0, x.since(2));
+        due(0, x.since(16));
+        x.off(1);
+        due(1, x.since(2));
+        x.rule(100, 1, 3, 0, -1);
+        due(1, x.since(16));
+        x.off(3);
+        due(2, x.since(16));
     }
 
     private static void sinceItsOwnRules() {

@@ -43,6 +43,7 @@ public final class RolesEdgeTest {
         loanSourceLeast();
         loanStands();
         loanStandsAgain();
+        loanStandsByAssignedAlone();
         loanSourceStands();
         loanEnds();
         takenBackMany();
@@ -511,6 +512,34 @@ public final class RolesEdgeTest {
         due(1, x.holds(0, 0));
         due(0, x.loan(0, 6));
         due(1, x.count(2));
+    }
+
+    /** The LOAN by which the lender HOLDS the ROLE, too, has the lesser number, the greater one. */
+    private static void loanStandsByAssignedAlone() {
+        for (int first = 0; first < 2; first++) {
+            start("SOURCE -1: by what it is ASSIGNED, though a LOAN to the lender STANDS.");
+            x.assign(0, 0, 1);
+            x.assign(1, 0, 1);
+            int onward = 1 - first;
+            if (first == 0) {
+                due(0, x.lend(0, 1, 0, 50, 5));
+                due(1, x.lend(1, 2, 0, 50, 4));
+            } else {
+                due(0, x.lend(1, 2, 0, 50, 4));
+                due(1, x.lend(0, 1, 0, 50, 5));
+            }
+            due(-1, x.loan(onward, 5));
+            due(2, x.count(2));
+            due(0, x.assign(1, 0, 0));
+            due(1, x.holds(1, 0));
+            due(0, x.holds(1, 2));
+            due(0, x.loan(onward, 6));
+            due(0, x.holds(2, 0));
+            due(STATE, x.takeBack(onward));
+            due(2, x.lend(1, 2, 0, 50, 4));
+            due(first, x.loan(2, 5));
+            due(1, x.holds(2, 0));
+        }
     }
 
     private static void loanSourceStands() {
